@@ -39,6 +39,11 @@ public final class FaultTest {
         sound("lamp a\n;\nlamp\nb lit watts99;", 2);
         sound(eightLamps(), 8);
         sound("lamp both;lamp one;lamp sum;lamp term;lamp unit;lamp e;lamp line;lamp loft;", 8);
+        // names are told apart by each letter, their order and their length
+        sound("lamp a;lamp aa;lamp ab;lamp ba;lamp b;lamp aaaaaaaa;lamp aaaaaaab;lamp baaaaaaa;", 8);
+        sound("lamp zzzzzzzz;lamp zzzzzzz;lamp yzzzzzzz;lamp zzzzzzzy;", 4);
+        // words but for a letter kept
+        sound("lamp bit;lamp lamps;lamp lam;lamp xamp;lamp nights;lamp nigh;lamp cor;lamp turn;", 8);
         // a cord may have a lamp's name
         sound("lamp a;cord a turns a;", 1);
         sound("lamp a watts 0;cord c turns a costs 0;least 0;gusts 0;draw 0;", 1);
@@ -70,6 +75,13 @@ public final class FaultTest {
         fault("dusk 12a;", 1, 5);
         fault("dusk 1and 2;", 1, 5);
         fault("lamp a watts 5lit;", 1, 13);
+        // as many tokens as there can be bytes
+        fault(";".repeat(1600), 2, 0);
+        fault("dusk" + "(".repeat(1596), 2, 11);
+        fault("lamp a" + " ".repeat(1594), 2, 1600);
+        fault("a".repeat(1600), 1, 0);
+        fault("9".repeat(1600), 1, 0);
+        fault("\n".repeat(1599) + "$", 1, 1599);
         // at one place the least: no token at all, whatever could stand there
         fault("lamp a watts 12345;", 1, 13);
         fault("lamp 12345", 1, 5);

@@ -204,6 +204,38 @@ public final class PromiseTest {
         due("12: no least", Check.with("lamp a lit;dusk 1;least 1;").dusk(), 0);
         units();
         arithmetic();
+        largeRules();
+        lastNight();
+    }
+
+    private static void lastNight() {
+        CordLoft x = Check.with("lamp a;dusk 1;");
+        for (int i = 1; i <= 999; i++) {
+            due("12: dusk " + i, x.dusk(), i % 2);
+        }
+        due("12: behind 999", x.dusk(), NONE);
+        due("12: night 999", x.about(4), 999);
+        due("12: nothing is done", x.picture(), 1);
+        due("15: beyond night 999", x.will(2, 0), 1);
+        due("15: beyond night 999", x.will(3, 1), 0);
+        due("31: beyond night 999", x.again(0), 2);
+        x.undo();
+        due("12: the 999th again", x.dusk(), 1);
+    }
+
+    private static void largeRules() {
+        // seven nots ahead of each of thirty units
+        String seven = "not ".repeat(7);
+        turns((seven + "0 and ").repeat(29) + seven + "0", true);
+        turns((seven + "0 and ").repeat(29) + seven + "1", false);
+        // each level has something waiting at every joint
+        String deep = "1";
+        for (int i = 0; i < 3; i++) {
+            deep = "(0 or 1 and 7<2+3*(1+1)*" + deep + ")";
+        }
+        turns(deep, true);
+        turns("0 or 1 and 3<1+1*(1 or 1 and 1<1+1*(1 or 1 and 1<1+1*(1 or 1 and 1<1+1*(1 or 1 and 1<1))))", false);
+        turns("0 or 1 and 1<1+1*(1 or 1 and 1<1+1*(1 or 1 and 1<1+1*(1 or 1 and 1<1+1*(1 or 1 and 1<1))))", true);
     }
 
     private static void units() {
@@ -663,6 +695,9 @@ public final class PromiseTest {
                 + "cord y turns b costs 2;cord z turns b costs 2;");
         due("36: the first of three", w.exchange(0), 0);
         due("36: with x", w.exchange(1), 1);
+        // the dark takes all cords, so none gains
+        CordLoft all = Check.with("lamp a lit;lamp b lit;cord x turns a costs 4;cord y turns b;");
+        due("36: all cords", all.exchange(0), NONE);
     }
 
     private static void cordsNamed() {
@@ -845,7 +880,12 @@ public final class PromiseTest {
 
     private static void boxes() {
         CordLoft x = Check.with(FOUR + "dusk number=3;gusts 50;draw 3;");
-        due("57: nothing was", x.back(0), NONE);
+        for (int box = -1; box <= 3; box++) {
+            due("57: nothing was", x.back(box), NONE);
+        }
+        due("56: image(0)", x.image(0), 5);
+        x.pull(0);
+        due("57: back(0)", x.back(0), 5);
         x.pull(0);
         x.tie(1);
         x.dusk();
