@@ -1129,6 +1129,8 @@ public final class CordLoft {
         static final int MOST = 8;
         static final int ALL_SETS = 1 << MOST;
         static final int MOST_COST = 20;
+        // by the lamp, whether it is lit, and how many of the others are lit next to it
+        private static final int CASES = MOST * 2 * MOST;
 
         int lamps;
         int lit;
@@ -1143,6 +1145,9 @@ public final class CordLoft {
         // which lamps a set of cords turns, each pulled once; none by none
         final int[] turnsOfSet = new int[ALL_SETS];
         final Formula formula = new Formula();
+        // all pictures share a few cases of a lamp at a dusk, so each is reckoned but once a night
+        private final int[] reckonedFor = new int[CASES];
+        private final boolean[] turnsByItself = new boolean[CASES];
         int least;
         int gusts;
         int draw;
@@ -1200,6 +1205,9 @@ public final class CordLoft {
 
         /** Works out what follows from lamps and cords, when all of them are told. */
         void settle() {
+            for (int i = 0; i < CASES; i++) {
+                reckonedFor[i] = NONE;
+            }
             for (int cord = 0; cord < cords; cord++) {
                 for (int lamp = 0; lamp < lamps; lamp++) {
                     turnedBy[lamp] |= (turns[cord] >> lamp & 1) << cord;
@@ -1254,18 +1262,29 @@ public final class CordLoft {
                 return picture;
             }
             int after = picture;
-            formula.give(Tokens.NIGHT, night);
             for (int lamp = 0; lamp < lamps; lamp++) {
-                formula.give(Tokens.LIT, picture >> lamp & 1);
-                formula.give(Tokens.NEAR, Integer.bitCount(picture & beside[lamp]));
-                formula.give(Tokens.CORDS, Integer.bitCount(turnedBy[lamp]));
-                formula.give(Tokens.ITS_NUMBER, lamp);
-                formula.give(Tokens.WATTS, watts[lamp]);
-                if (formula.worth() > 0) {
+                int isLit = picture >> lamp & 1;
+                int near = Integer.bitCount(picture & beside[lamp]);
+                int index = (lamp * 2 + isLit) * MOST + near;
+                if (reckonedFor[index] != night) {
+                    reckonedFor[index] = night;
+                    turnsByItself[index] = duskWorth(lamp, isLit, near, night) > 0;
+                }
+                if (turnsByItself[index]) {
                     after ^= 1 << lamp;
                 }
             }
             return after;
+        }
+
+        private int duskWorth(int lamp, int isLit, int near, int night) {
+            formula.give(Tokens.LIT, isLit);
+            formula.give(Tokens.NEAR, near);
+            formula.give(Tokens.CORDS, Integer.bitCount(turnedBy[lamp]));
+            formula.give(Tokens.ITS_NUMBER, lamp);
+            formula.give(Tokens.WATTS, watts[lamp]);
+            formula.give(Tokens.NIGHT, night);
+            return formula.worth();
         }
     }
 
