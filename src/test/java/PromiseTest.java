@@ -4,13 +4,8 @@ public final class PromiseTest {
     private static final int FAR = Integer.MAX_VALUE;
     private static final int LOW = Integer.MIN_VALUE;
 
-    // a and c burn; x, y, z together change nothing, and none of the four cords turns an odd number
-    private static final String FOUR = "lamp a lit watts 5;lamp b watts 3;lamp c lit watts 2;lamp d;"
-            + "cord x turns a b costs 3;cord y turns b c;cord z turns a c costs 7;cord w turns c d costs 2;"
-            + "next a b;next b c;";
-    // three lamps each by its own cord
-    private static final String SINGLE = "lamp a lit;lamp b lit watts 4;lamp c;"
-            + "cord x turns a costs 2;cord y turns b costs 5;cord z turns c costs 2;";
+    private static final String FOUR = Lofts.FOUR;
+    private static final String SINGLE = Lofts.SINGLE;
 
     public static void main(String[] args) {
         newObject();
