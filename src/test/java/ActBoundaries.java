@@ -50,7 +50,8 @@ final class ActBoundaries {
         CordLoft x = Check.with("lamp a lit;lamp b;lamp c lit;lamp d;cord x turns a b;");
         Check.due("a goes out, b burns, c and d stay", x.pull(0), 6);
         Check.due("and again", x.pull(0), 5);
-        Sentence.of(Sentence.TERMS, "A PULL of a CORD that is not TIED: it TURNS its LAMPS, what it costs is SPENT (0 at first).");
+        Sentence.of(Sentence.TERMS, "A PULL of a CORD that is not TIED: it TURNS its LAMPS, what it costs is SPENT"
+                + " (0 at first).");
         CordLoft y = Check.with("lamp a;cord x turns a costs 0;cord y turns a costs 20;cord z turns a;");
         Check.due("at first", y.about(3), 0);
         y.pull(0);
@@ -238,6 +239,15 @@ final class ActBoundaries {
         // a relation is not told by a difference that wraps
         turns(LEAST_INT + "<1", true);
         turns(LEAST_INT + "-1>0-1", true);
+        Sentence.of(Sentence.TERMS, "sum = term {(+ | -) term}. term = unit {(* | / | %) unit}.");
+        // from the left
+        turns("20-5-5=10", true);
+        turns("20-5+5=20", true);
+        turns("40/4/5=2", true);
+        turns("20/4*5=25", true);
+        turns("17%10*2=14", true);
+        turns("2+3*4=14", true);
+        turns("2*3+4=10", true);
         Sentence.of(Sentence.TERMS, "/ cut, % its rest, both by 0: 0;");
         turns("7/2=3", true);
         turns("(0-7)/2=0-3", true);
@@ -503,6 +513,7 @@ final class ActBoundaries {
             Check.due("acts", x.about(6) + x.about(7), 0);
         }
         boxesOneByOne();
+        actsBehindBack();
         Sentence.of(56, "NONE if there is none such.");
         Check.none("image", x::image, LOW, -2, -1, 3, 4, 32, 256, FAR);
         for (int box : new int[] {LOW, -1, 3, 32, FAR}) {
@@ -513,6 +524,26 @@ final class ActBoundaries {
         for (int box : new int[] {LOW, -1, 1, 3, 32, 33, FAR}) {
             Check.refused("back(" + box + ")", Lofts::livedIn, y -> y.back(box));
         }
+    }
+
+    /** More acts behind back() than there were ahead of it: they are undone down to what was kept, and no further. */
+    private static void actsBehindBack() {
+        CordLoft x = Lofts.eight();
+        x.pull(7);
+        x.image(0);
+        for (int cord = 0; cord < 4; cord++) {
+            x.pull(cord);
+        }
+        x.back(0);
+        for (int cord = 0; cord < 7; cord++) {
+            Check.due("pulled behind back(0)", x.pull(cord), 127 + (2 << cord));
+        }
+        for (int cord = 6; cord >= 0; cord--) {
+            Check.due("undo", x.undo(), true);
+            Check.due("picture", x.picture(), 127 + (1 << cord));
+        }
+        Check.due("no further", x.undo(), false);
+        Check.due("kept", x.back(0), 128);
     }
 
     private static void boxesOneByOne() {

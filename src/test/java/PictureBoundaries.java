@@ -1,3 +1,4 @@
+import java.util.ArrayList;
 import java.util.List;
 import java.util.function.ToIntFunction;
 
@@ -92,6 +93,7 @@ final class PictureBoundaries {
                 Check.same("all behind " + query.name(), Trace.of(x), Trace.of(Lofts.livedIn()));
             }
         }
+        oneBehindTheOther();
         Sentence.of(Sentence.TERMS, "no gusts, if not told otherwise;");
         String dusk = Lofts.FOUR + "dusk near=1;";
         for (Query query : OF_DUSKS) {
@@ -115,6 +117,20 @@ final class PictureBoundaries {
         for (int cord = 0; cord < 8; cord++) {
             x.loose(cord);
             Check.due("pictures", x.pictures(), 2 << cord);
+        }
+    }
+
+    /** What was asked before is no matter: each question behind each other one. */
+    private static void oneBehindTheOther() {
+        List<Query> queries = new ArrayList<>(OF_CORDS);
+        queries.addAll(OF_DUSKS);
+        for (Query query : queries) {
+            int alone = query.call().applyAsInt(Lofts.livedIn());
+            CordLoft x = Lofts.livedIn();
+            for (Query other : queries) {
+                other.call().applyAsInt(x);
+                Check.due(query.name() + " behind " + other.name(), query.call().applyAsInt(x), alone);
+            }
         }
     }
 
@@ -166,7 +182,8 @@ final class PictureBoundaries {
     private static void cheapest() {
         Sentence.of(Sentence.TERMS, "CHEAPEST: those that cost least together; of like ones the fewest, then the least set"
                 + " as bits.");
-        String seven = Lofts.EIGHT.substring(0, Lofts.EIGHT.indexOf("cord h")).replaceAll("turns ([a-g]);", "turns $1 costs 0;");
+        String seven = Lofts.EIGHT.substring(0, Lofts.EIGHT.indexOf("cord h"))
+                .replaceAll("turns ([a-g]);", "turns $1 costs 0;");
         CordLoft cheap = Check.with(seven + "cord h turns a b c d e f g costs 1;");
         Check.due("seven for nothing are cheaper than one for 1", cheap.cheapest(127, 1), 127);
         Check.due("for nothing", cheap.cheapest(127, 0), 0);
@@ -374,7 +391,8 @@ final class PictureBoundaries {
                 + "cord x turns a;cord y turns b;cord z turns c;").game(0), 1);
         Sentence.of(30, "GAME what 0: its VALUE, 1: the first CORD by which it is that;");
         Check.due("lost by whichever, the first", lost.game(1), 0);
-        Check.due("the first that wins", Check.with("lamp a lit;lamp b;cord x turns b;cord y turns a;cord z turns a;").game(1), 1);
+        Check.due("the first that wins", Check.with("lamp a lit;lamp b;cord x turns b;cord y turns a;"
+                + "cord z turns a;").game(1), 1);
         Check.due("eight of neither", Lofts.eight().game(0), 0);
         Check.due("the first of eight", Lofts.eight().game(1), 0);
         Sentence.of(30, "NONE (of 1) if there is no FREE CORD, or for another what.");
@@ -502,9 +520,19 @@ final class PictureBoundaries {
         Check.due("by 1", Check.with(ab + "cord x turns a costs 1;cord y turns b costs 0;").exchange(2), 0);
         Check.due("as cheap as now", Check.with(ab + "cord x turns a;cord y turns b;").exchange(0), NONE);
         Check.due("dearer", Check.with(ab + "cord x turns a costs 1;cord y turns b costs 2;").exchange(0), NONE);
-        Check.due("dark for nothing now", Check.with("lamp a;cord x turns a costs 9;cord y turns a;").exchange(2), NONE);
+        Check.due("dark for nothing now", Check.with("lamp a;lamp b;cord x turns a costs 9;cord y turns a costs 5;"
+                + "cord z turns b costs 0;").exchange(2), NONE);
         CordLoft best = Check.with(ab + "cord x turns a costs 20;cord y turns b costs 3;cord z turns b costs 1;");
         Check.due("z gives more than y", best.exchange(1), 2);
+        Check.due("1", best.exchange(2), 1);
+        // now z alone for 9; with x for 0 instead of 8, x and y do for 2
+        CordLoft another = Check.with("lamp a lit;lamp b lit;lamp c;cord x turns a costs 8;cord y turns b costs 2;"
+                + "cord z turns a b costs 9;cord w turns c costs 0;");
+        Check.due("z for nothing", another.exchange(2), 0);
+        another.tie(2);
+        Check.due("x for nothing, y for 2", another.exchange(2), 2);
+        Check.due("x", another.exchange(0), 0);
+        Check.due("and w", another.exchange(1), 3);
         Sentence.of(Sentence.TERMS, "of like ones the first (the lesser number, then the other one).");
         CordLoft like = Check.with(ab + "cord q turns b costs 2;cord x turns a costs 5;cord y turns b costs 2;");
         Check.due("q and x, not x and y", like.exchange(0), 0);
@@ -525,8 +553,8 @@ final class PictureBoundaries {
         Sentence.of(36, "NONE if there are none, the dark can't be, or for another what.");
         Check.none("exchange of one cord", Check.with("lamp a lit;cord x turns a costs 9;")::exchange, 0, 1, 2);
         Check.none("exchange of no cord", new CordLoft()::exchange, 0, 1, 2);
-        Check.none("exchange, the dark can't be", Check.with("lamp a lit;lamp b;cord x turns b costs 9;cord y turns b;")::exchange,
-                0, 1, 2);
+        CordLoft never = Check.with("lamp a lit;lamp b;cord x turns b costs 9;cord y turns b;");
+        Check.none("exchange, the dark can't be", never::exchange, 0, 1, 2);
         Check.none("exchange", x::exchange, LOW, -2, -1, 3, 4, FAR);
         x.tie(0);
         Check.none("exchange, the dark can't be any more", x::exchange, 0, 1, 2);
@@ -537,6 +565,9 @@ final class PictureBoundaries {
         CordLoft x = Lofts.eight();
         x.tie(7);
         Check.due("the only one", x.loosen(), 7);
+        CordLoft first = Lofts.eight();
+        first.tie(0);
+        Check.due("the first one", first.loosen(), 0);
         x.tie(3);
         Check.due("of like ones the first", x.loosen(), 3);
         CordLoft y = Lofts.four();
@@ -564,17 +595,19 @@ final class PictureBoundaries {
         Check.due("none is free", dear.dearest(), NONE);
         Check.due("no cords", new CordLoft().dearest(), NONE);
         Sentence.of(40, "FREE CORDS that turn an odd number of LAMPS, as bits.");
-        CordLoft odd = Check.with(Lofts.EIGHT_LAMPS + "cord p turns a;cord q turns a b;cord r turns a b c d e f g;"
-                + "cord s turns a b c d e f g h;");
-        Check.due("one and seven, not two and eight", odd.odd(), 5);
+        CordLoft odd = Check.with(Lofts.EIGHT_LAMPS + "cord a turns a;cord b turns a b;cord c turns a b c;"
+                + "cord d turns a b c d;cord e turns a b c d e;cord f turns a b c d e f;cord g turns a b c d e f g;"
+                + "cord h turns a b c d e f g h;");
+        Check.due("one, three, five, seven", odd.odd(), 85);
         odd.tie(0);
-        Check.due("free ones", odd.odd(), 4);
+        odd.tie(6);
+        Check.due("free ones", odd.odd(), 20);
         Check.due("all eight", Lofts.eight().odd(), 255);
         Check.due("no cords", new CordLoft().odd(), 0);
         Sentence.of(45, "The CORD of the most LAMPS; of like ones the first;");
-        Check.due("all eight lamps", odd.longest(), 3);
-        odd.tie(3);
-        Check.due("tied or not", odd.longest(), 3);
+        Check.due("all eight lamps", odd.longest(), 7);
+        odd.tie(7);
+        Check.due("tied or not", odd.longest(), 7);
         Check.due("the first of eight", Lofts.eight().longest(), 0);
         Sentence.of(45, "NONE without CORDS.");
         Check.due("no cords", Check.with(Lofts.EIGHT_LAMPS).longest(), NONE);
@@ -592,6 +625,9 @@ final class PictureBoundaries {
         Check.due("six", seven.boldest(1), 6);
         Check.due("to the dark", Check.with("lamp a lit;cord x turns a;least 1;").boldest(1), 0);
         Check.due("of like ones the first", Lofts.eight().boldest(0), 0);
+        CordLoft out = Check.with("lamp a lit;lamp b lit;lamp c;cord x turns a b c;cord y turns a c;");
+        Check.due("what goes out counts: y", out.boldest(0), 1);
+        Check.due("two", out.boldest(1), 2);
         Sentence.of(38, "NONE if there is none, or for another what.");
         for (int cord = 1; cord < 8; cord++) {
             seven.tie(cord);

@@ -232,6 +232,12 @@ final class SightBoundaries {
         x.seen(3, true);
         Check.due("nothing is left to learn: the first", x.ask(0, 0), 0);
         Check.due("one set", x.ask(1, 0), 1);
+        CordLoft turned = Check.with("lamp a;lamp b;cord p turns b;cord q turns a;");
+        Check.due("both halve: the first", turned.ask(0, 0), 0);
+        Check.due("two of four", turned.ask(1, 0), 2);
+        CordLoft lit = Check.with("lamp a lit;lamp b;cord p turns a;");
+        Check.due("one that was lit as told", lit.ask(0, 0), 0);
+        Check.due("one of two", lit.ask(1, 0), 1);
         Sentence.of(55, "ASK what 0: the LAMP, 1: how many are left at the most;");
         Check.due("the first of eight", Lofts.eight().ask(0, 0), 0);
         Check.due("half of 256", Lofts.eight().ask(1, 0), 128);

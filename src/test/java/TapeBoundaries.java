@@ -158,13 +158,39 @@ final class TapeBoundaries {
         }
     }
 
-    /** Nothing of a full loft is left in the next one, though a faulty text stands between them. */
+    /** Nothing of a full loft, or of a faulty text, is left in a small one behind it. */
     private static void smallerLoft() {
-        CordLoft x = Check.with(Lofts.EIGHT.replace(";", " ;").replace("lamp a ", "lamp a lit watts 9")
-                + "next a b;least 3;gusts 50;draw 5;dusk near;");
-        Check.read(x, Lofts.EIGHT + "cord");
-        Check.due("lamps", Check.read(x, "lamp p;lamp q;cord c turns q;"), 2);
-        Check.same("as in a new object", Trace.of(x), Trace.of(Check.with("lamp p;lamp q;cord c turns q;")));
+        String full = Lofts.EIGHT.replaceAll("lamp ([a-h]);", "lamp $1 lit watts 9;") + "next a b;"
+                + "least 3;gusts 50;draw 5;dusk near or 1;";
+        String small = "lamp p;lamp q;cord c turns q;";
+        String[][] texts = {{full, small}, {full, full, small}, {full, full + "$", small}, {full + "$", small}};
+        for (String[] row : texts) {
+            CordLoft x = new CordLoft();
+            for (String text : row) {
+                Check.read(x, text);
+            }
+            Check.due("lamps", x.about(0), 2);
+            Check.same("as in a new object", Trace.of(x), Trace.of(Check.with(small)));
+        }
+        actsBehindLoft();
+    }
+
+    /** More acts behind loft() than there were ahead of it: they are undone down to what is told. */
+    private static void actsBehindLoft() {
+        CordLoft x = Lofts.eight();
+        for (int cord = 0; cord < 3; cord++) {
+            x.pull(cord);
+        }
+        Check.read(x, Lofts.EIGHT.replace("lamp h;", "lamp h lit;"));
+        Check.due("undo", x.undo(), false);
+        for (int cord = 0; cord < 5; cord++) {
+            x.pull(cord);
+        }
+        for (int i = 0; i < 5; i++) {
+            Check.due("undo", x.undo(), true);
+        }
+        Check.due("as told", x.picture(), 128);
+        Check.due("no further", x.undo(), false);
     }
 
     private static void fault() {

@@ -27,6 +27,9 @@ final class TextBoundaries {
         Check.sound(" ".repeat(1593) + "lamp a;", 1);
         Check.fault(2, " ".repeat(1594) + "lamp a^");
         Check.fault(1, "\n".repeat(1599) + "^$");
+        // as many tokens as bytes
+        Check.fault(2, "^" + ";".repeat(1600));
+        Check.fault(2, "dusk(((((((^" + "(".repeat(1589));
         CordLoft x = new CordLoft();
         Check.feed(x, "lamp a;" + " ".repeat(1593));
         Check.due("a byte more", x.feed(0x24242424, 0, 0, 0, 0), NONE);
@@ -331,6 +334,10 @@ final class TextBoundaries {
         Check.sound("draw 1;gusts 1;least 1;dusk 1;", 0);
         for (String line : List.of("dusk 1;", "least 1;", "gusts 1;", "draw 1;")) {
             Check.fault(2, line + "lamp a;^" + line);
+            for (String between : List.of("dusk 0;", "least 0;", "gusts 0;", "draw 0;")) {
+                boolean like = line.startsWith(between.substring(0, 4));
+                Check.fault(2, line + (like ? "" : between) + "^" + line);
+            }
         }
     }
 
@@ -361,6 +368,11 @@ final class TextBoundaries {
         Check.fault(2, "dusk (1" + "+1".repeat(28) + ")*^1;");
         Check.fault(2, "dusk 1" + "+1".repeat(28) + "+(^1);");
         Check.due("28 and ( ) of one", Check.with("dusk 1" + "+1".repeat(27) + "+(1);").about(11), 30);
+        // seven nots ahead of each of thirty
+        String seven = "not ".repeat(7);
+        String nots = "lamp a;dusk " + (seven + "0 and ").repeat(29) + seven;
+        Check.due("all thirty", Check.with(nots + "0;").dusk(), 1);
+        Check.due("the last of thirty", Check.with(nots + "1;").dusk(), 0);
         // relations, nots and joints are none
         String rule = "dusk not not 1<2 and not 3>4 or 5=6 and 7%8/9;";
         Check.due("nine", Check.with(rule).about(11), 9);

@@ -41,7 +41,8 @@ final class WayBoundaries {
     }
 
     private static void least() {
-        Sentence.of(Sentence.TERMS, "behind each of which (not now) no fewer LAMPS are LIT than least tells, till it is there;");
+        Sentence.of(Sentence.TERMS, "behind each of which (not now) no fewer LAMPS are LIT than least tells,"
+                + " till it is there;");
         CordLoft dark = Check.with("lamp a;lamp b;cord x turns a;cord y turns b;least 1;");
         way(dark, 1, 0);
         way(dark, 3, 0, 1);
@@ -61,7 +62,8 @@ final class WayBoundaries {
 
     private static void firstOfLike() {
         Sentence.of(Sentence.TERMS, "of like ones the first (PULL by PULL: the least CORD).");
-        CordLoft x = Check.with("lamp a;lamp b;lamp c;lamp d;cord x turns a b;cord y turns a c;cord z turns b d;cord w turns c d;");
+        CordLoft x = Check.with("lamp a;lamp b;lamp c;lamp d;cord x turns a b;cord y turns a c;"
+                + "cord z turns b d;cord w turns c d;");
         // y and z are the lesser set, but x comes first
         Check.due("as a set", x.fewest(15, 1), 6);
         way(x, 15, 0, 3);
