@@ -6,6 +6,8 @@ import java.util.Random;
 public final class ModelTest {
     private static final int RUNS = 400;
     private static final int CALLS = 512;
+    private static final int[] FAR = {Integer.MIN_VALUE, Integer.MIN_VALUE + 1, -65536, -257, -256, -255, 255, 256, 257,
+        65536, 1 << 30, Integer.MAX_VALUE - 1, Integer.MAX_VALUE};
 
     private final Random random;
     private final CordLoft x = new CordLoft();
@@ -52,6 +54,11 @@ public final class ModelTest {
 
     private boolean oneIn(int n) {
         return random.nextInt(n) == 0;
+    }
+
+    /** An argument, or seldom one far from all that can be. */
+    private int any(int usual) {
+        return oneIn(40) ? FAR[below(FAR.length)] : usual;
     }
 
     private void readText(String text) {
@@ -198,20 +205,20 @@ public final class ModelTest {
     }
 
     private int lampOrNot() {
-        return below(10) - 1;
+        return any(below(10) - 1);
     }
 
     private int pictureOrNot() {
         int lamps = m.about(0);
-        return oneIn(12) ? below(600) - 100 : below(1 << lamps);
+        return any(oneIn(12) ? below(600) - 100 : below(1 << lamps));
     }
 
     private int kind(int count) {
-        return oneIn(12) ? below(count + 3) - 1 : below(count);
+        return any(oneIn(12) ? below(count + 3) - 1 : below(count));
     }
 
     private int when() {
-        return below(m.about(9) + 3) - 1;
+        return any(below(m.about(9) + 3) - 1);
     }
 
     private void call() {
@@ -225,7 +232,7 @@ public final class ModelTest {
 
     private void callAct() {
         int c = lampOrNot();
-        int n = oneIn(10) ? below(70) - 3 : below(20);
+        int n = any(oneIn(10) ? below(70) - 3 : below(20));
         int w = kind(2);
         switch (below(14)) {
             case 0, 1, 2 -> due("pull(" + c + ")", x.pull(c), m.pull(c));
@@ -243,7 +250,7 @@ public final class ModelTest {
     }
 
     private void callAbout() {
-        int w = below(17) - 1;
+        int w = any(below(17) - 1);
         int i = lampOrNot();
         int k = kind(4);
         due("about(" + w + ")", x.about(w), m.about(w));
@@ -285,7 +292,7 @@ public final class ModelTest {
     private void callMore() {
         int w = kind(2);
         int c = lampOrNot();
-        int n = oneIn(8) ? below(30) - 4 : below(21);
+        int n = any(oneIn(8) ? below(30) - 4 : below(21));
         switch (below(19)) {
             case 0 -> callGame(w);
             case 1 -> due("again(" + w + ")", x.again(w), m.again(w));
@@ -326,8 +333,8 @@ public final class ModelTest {
         int k = when();
         int w = kind(2);
         boolean is = oneIn(2);
-        int by = oneIn(10) ? below(1100) - 50 : below(3);
-        int number = below(m.about(8) + 2) - 1;
+        int by = any(oneIn(10) ? below(1100) - 50 : below(3));
+        int number = any(below(m.about(8) + 2) - 1);
         switch (below(12)) {
             case 0, 1, 2 -> due("seen(" + l + ", " + is + ")", x.seen(l, is), m.seen(l, is));
             case 3, 4 -> due("untell(" + number + ")", x.untell(number), m.untell(number));
